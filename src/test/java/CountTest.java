@@ -1,0 +1,86 @@
+/** Promise 3. */
+public final class CountTest {
+    public static void main(String[] args) {
+        ordinary();
+        many();
+        noneTimesMany();
+        exactlyMany();
+        wrongArguments();
+        Expect.end();
+    }
+
+    private static void ordinary() {
+        long[] trees = {1, 2, 5, 26, 677};
+        long[] lists = {1, 3, 7, 15, 31};
+        long[] pairs = {0, 1, 4, 9, 16};
+        for (int depth = 0; depth <= 4; depth++) {
+            Expect.answers("trees", Samples.trees().count(0, depth), trees[depth]);
+            Expect.answers("lists", Samples.lists().count(1, depth), lists[depth]);
+            Expect.answers("truths", Samples.lists().count(0, depth), 2);
+            Expect.answers("pairs", Samples.pairs().count(2, depth), pairs[depth]);
+            Expect.answers("none", Samples.empties().count(0, depth), 0);
+            Expect.answers("pairs of none", Samples.empties().count(1, depth), 0);
+            Expect.answers("no constructors", Samples.empties().count(5, depth), 0);
+        }
+        LazyTester x = Samples.trees();
+        x.constructor(0, 0, -1, -1, -1);
+        Expect.answers("a constructor more", x.count(0, 2), 38);
+    }
+
+    private static void many() {
+        LazyTester x = Samples.bushes();
+        Expect.answers("bushes 1", x.count(0, 1), 4);
+        Expect.answers("bushes 2", x.count(0, 2), 193);
+        Expect.answers("bushes 3", x.count(0, 3), 21567172);
+        Expect.answers("bushes 4", x.count(0, 4), LazyTester.MANY);
+    }
+
+    /** Type 1 is a triple of two bushes and a value of type 2, which has none before it gets a constructor. */
+    private static void noneTimesMany() {
+        LazyTester x = Samples.bushes();
+        x.constructor(1, 3, 0, 0, 2);
+        x.constructor(3, 3, 2, 0, 0);
+        Expect.answers("many times many times none", x.count(1, 4), 0);
+        Expect.answers("none times many times many", x.count(3, 4), 0);
+        x.constructor(2, 0, -1, -1, -1);
+        Expect.answers("many without many", x.count(1, 3), 193L * 193);
+        Expect.answers("21567172 squared", x.count(1, 4), 465142908077584L);
+    }
+
+    /** Ten of type 2 are had from 4 + 3 + 3; then threes of threes of these. */
+    private static void exactlyMany() {
+        LazyTester x = new LazyTester();
+        for (int c = 0; c < 3; c++) {
+            x.constructor(0, 0, -1, -1, -1);
+        }
+        for (int c = 0; c < 4; c++) {
+            x.constructor(1, 0, -1, -1, -1);
+        }
+        x.constructor(2, 1, 0, -1, -1);
+        x.constructor(2, 1, 0, -1, -1);
+        x.constructor(2, 1, 1, -1, -1);
+        x.constructor(3, 3, 2, 2, 2);
+        x.constructor(4, 3, 3, 3, 2);
+        x.constructor(5, 2, 4, 4, -1);
+        Expect.answers("ten", x.count(2, 1), 10);
+        Expect.answers("a thousand", x.count(3, 2), 1000);
+        Expect.answers("ten millions", x.count(4, 3), 10000000);
+        Expect.answers("10 to the 14th", x.count(5, 4), 100000000000000L);
+        x.constructor(5, 2, 4, 4, -1);
+        Expect.answers("twice that", x.count(5, 4), 200000000000000L);
+        x.constructor(5, 2, 4, 4, -1);
+        x.constructor(5, 3, 4, 4, 2);
+        Expect.answers("beyond MANY by a sum", x.count(5, 4), LazyTester.MANY);
+        x.constructor(0, 1, 0, -1, -1);
+        Expect.answers("two types apart", x.count(0, 0), 3);
+    }
+
+    private static void wrongArguments() {
+        LazyTester x = Samples.trees();
+        Expect.noSuchIndex("type -1", () -> x.count(-1, 0));
+        Expect.noSuchIndex("type 6", () -> x.count(6, 0));
+        Expect.badArgument("depth -1", () -> x.count(0, -1));
+        Expect.badArgument("depth 5", () -> x.count(0, 5));
+        Expect.noSuchIndex("type before depth", () -> x.count(6, 5));
+    }
+}
