@@ -772,7 +772,7 @@ public final class LazyTester {
                     return negate(evaluate(x, value));
                 default:
                     int answer = evaluate(x, value);
-                    int leavesItToY = kind[property] == AND ? TRUE : FALSE;
+                    int leavesItToY = kind[property] == OR ? FALSE : TRUE;
                     return answer == leavesItToY ? evaluate(y, value) : answer;
             }
         }

@@ -5,6 +5,7 @@ public final class CountTest {
         many();
         noneTimesMany();
         exactlyMany();
+        manyBySum();
         wrongArguments();
         Expect.end();
     }
@@ -44,11 +45,34 @@ public final class CountTest {
         Expect.answers("none times many times many", x.count(3, 4), 0);
         x.constructor(2, 0, -1, -1, -1);
         Expect.answers("many without many", x.count(1, 3), 193L * 193);
-        Expect.answers("21567172 squared", x.count(1, 4), 465142908077584L);
+        Expect.answers("many times one", x.count(1, 4), 465142908077584L);
     }
 
-    /** Ten of type 2 are had from 4 + 3 + 3; then threes of threes of these. */
     private static void exactlyMany() {
+        LazyTester x = tenMillions();
+        x.constructor(5, 3, 4, 4, 2);
+        Expect.answers("exactly MANY", x.count(5, 4), LazyTester.MANY);
+        Expect.answers("the last of them", x.show(5, 4, LazyTester.MANY - 1), 37);
+        Expect.badState("there is no other", () -> x.show(5, 4, LazyTester.MANY));
+        x.constructor(5, 0, -1, -1, -1);
+        Expect.answers("one more", x.count(5, 4), LazyTester.MANY);
+        Expect.badState("which can't be shown", () -> x.show(5, 4, LazyTester.MANY));
+    }
+
+    private static void manyBySum() {
+        LazyTester x = tenMillions();
+        x.constructor(5, 2, 4, 4, -1);
+        x.constructor(5, 2, 4, 4, -1);
+        Expect.answers("two times 10 to the 14th", x.count(5, 4), 200000000000000L);
+        x.constructor(5, 3, 4, 4, 2);
+        Expect.answers("more than MANY", x.count(5, 4), LazyTester.MANY);
+        Expect.answers("the last of the second constructor", x.show(5, 4, 199999999999999L), 35);
+        Expect.answers("the first of the third one", x.show(5, 4, 200000000000000L), 37);
+        Expect.answers("its constructor", x.shown(0), 2);
+    }
+
+    /** Type 2 has 3 + 3 + 4 = 10 values, type 3 a thousand, type 4 ten millions. */
+    private static LazyTester tenMillions() {
         LazyTester x = new LazyTester();
         for (int c = 0; c < 3; c++) {
             x.constructor(0, 0, -1, -1, -1);
@@ -61,18 +85,10 @@ public final class CountTest {
         x.constructor(2, 1, 1, -1, -1);
         x.constructor(3, 3, 2, 2, 2);
         x.constructor(4, 3, 3, 3, 2);
-        x.constructor(5, 2, 4, 4, -1);
         Expect.answers("ten", x.count(2, 1), 10);
         Expect.answers("a thousand", x.count(3, 2), 1000);
         Expect.answers("ten millions", x.count(4, 3), 10000000);
-        Expect.answers("10 to the 14th", x.count(5, 4), 100000000000000L);
-        x.constructor(5, 2, 4, 4, -1);
-        Expect.answers("twice that", x.count(5, 4), 200000000000000L);
-        x.constructor(5, 2, 4, 4, -1);
-        x.constructor(5, 3, 4, 4, 2);
-        Expect.answers("beyond MANY by a sum", x.count(5, 4), LazyTester.MANY);
-        x.constructor(0, 1, 0, -1, -1);
-        Expect.answers("two types apart", x.count(0, 0), 3);
+        return x;
     }
 
     private static void wrongArguments() {
