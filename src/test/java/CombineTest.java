@@ -1,26 +1,16 @@
-/** Promise 10. */
+/** Promise 10, and what AND, OR and NOT are. */
 public final class CombineTest {
     public static void main(String[] args) {
-        heights();
         truthTables();
-        takesTheTopmost();
-        wrongArguments();
-        atMostTwenty();
+        takeThePlace();
+        howManyLieThereThen();
+        noSuchWhat();
+        notAsMany();
+        twentyHaveBeenMade();
         Expect.end();
     }
 
-    private static void heights() {
-        LazyTester x = new LazyTester();
-        x.test(0, 0);
-        x.test(0, 1);
-        x.test(0, 2);
-        Expect.answers("NOT", x.combine(2), 3);
-        Expect.answers("AND", x.combine(0), 2);
-        Expect.answers("OR", x.combine(1), 1);
-        Expect.answers("NOT of the only one", x.combine(2), 1);
-    }
-
-    /** On a type with one value of constructor 0: TEST 0, 0 is true, TEST 0, 1 false. */
+    /** "x AND y, x OR y, NOT x": on a type with one value of constructor 0, TEST 0, 0 is true, TEST 0, 1 false. */
     private static void truthTables() {
         for (int x = 0; x < 2; x++) {
             for (int y = 0; y < 2; y++) {
@@ -28,6 +18,7 @@ public final class CombineTest {
                 Expect.answers(x + " OR " + y, truth(x, y, 1), x | y);
             }
             Expect.answers("NOT " + x, truth(0, x, 2), 1 - x);
+            Expect.answers("NOT " + x, truth(1, x, 2), 1 - x);
         }
     }
 
@@ -43,7 +34,8 @@ public final class CombineTest {
         return checked;
     }
 
-    private static void takesTheTopmost() {
+    /** "are made of the topmost ones, which they take the place of" */
+    private static void takeThePlace() {
         LazyTester x = Samples.lists();
         x.test(0, 1);
         x.test(0, 0);
@@ -55,21 +47,48 @@ public final class CombineTest {
         Expect.answers("what lay below is there again", x.check(1, 2), 0);
     }
 
-    private static void wrongArguments() {
+    /** "Answers how many lie there then." */
+    private static void howManyLieThereThen() {
         LazyTester x = new LazyTester();
-        Expect.badArgument("what -1", () -> x.combine(-1));
-        Expect.badArgument("what 3", () -> x.combine(3));
-        for (int what = 0; what <= 2; what++) {
-            int w = what;
-            Expect.badState("nothing to combine", () -> x.combine(w));
+        x.test(0, 0);
+        x.test(0, 1);
+        x.test(0, 2);
+        Expect.answers("NOT", x.combine(2), 3);
+        Expect.answers("AND", x.combine(0), 2);
+        Expect.answers("OR", x.combine(1), 1);
+        Expect.answers("NOT of the only one", x.combine(2), 1);
+    }
+
+    /** "IllegalArgumentException if what is not 0 .. 2" */
+    private static void noSuchWhat() {
+        LazyTester x = new LazyTester();
+        x.test(0, 0);
+        x.test(0, 0);
+        for (int what : new int[] {-1, 3, 4, -2, Integer.MIN_VALUE, Integer.MAX_VALUE}) {
+            Expect.badArgument("combine(" + what + ")", () -> x.combine(what));
         }
+        Expect.answers("both lie there", x.test(0, 0), 3);
+    }
+
+    /** "IllegalStateException if there are not as many" */
+    private static void notAsMany() {
+        LazyTester x = new LazyTester();
+        Expect.badState("AND of none", () -> x.combine(0));
+        Expect.badState("OR of none", () -> x.combine(1));
+        Expect.badState("NOT of none", () -> x.combine(2));
         x.test(0, 0);
         Expect.badState("AND of one", () -> x.combine(0));
         Expect.badState("OR of one", () -> x.combine(1));
-        Expect.answers("nothing was taken", x.test(0, 0), 2);
+        Expect.answers("NOT of one", x.combine(2), 1);
+        x.test(0, 0);
+        Expect.answers("AND of two", x.combine(0), 1);
+        Expect.badState("now it is one", () -> x.combine(1));
+        x.test(0, 0);
+        Expect.answers("OR of two", x.combine(1), 1);
     }
 
-    private static void atMostTwenty() {
+    /** "or 20 have been made": those that combine made are counted, and those that they took the place of. */
+    private static void twentyHaveBeenMade() {
         LazyTester x = Samples.trees();
         x.test(0, 0);
         for (int n = 2; n <= 20; n++) {
@@ -78,16 +97,20 @@ public final class CombineTest {
         Expect.badState("the 21st, by NOT", () -> x.combine(2));
         Expect.badState("the 21st, by TEST", () -> x.test(0, 0));
         Expect.badState("the 21st, by SAME", () -> x.same(0, 0));
-        Expect.badArgument("what is tested first", () -> x.combine(3));
         Expect.answers("19 times NOT", x.check(0, 1), 0);
-        LazyTester y = new LazyTester();
-        for (int n = 0; n < 10; n++) {
-            y.test(0, 0);
+        for (int what = 0; what <= 2; what++) {
+            int w = what;
+            LazyTester y = new LazyTester();
+            for (int n = 1; n <= 20; n++) {
+                y.test(0, 0);
+            }
+            Expect.badState("the 21st by " + w, () -> y.combine(w));
+            y.discard();
+            for (int n = 1; n <= 19; n++) {
+                y.test(0, 0);
+            }
+            Expect.answers("the 20th by " + w, y.combine(w), w == 2 ? 19 : 18);
+            Expect.badState("the 21st by " + w, () -> y.combine(w));
         }
-        for (int n = 0; n < 9; n++) {
-            y.combine(n % 2);
-        }
-        Expect.answers("the 20th", y.combine(2), 1);
-        Expect.badState("the 21st", () -> y.combine(2));
     }
 }

@@ -1,16 +1,21 @@
 /** Promise 3. */
 public final class CountTest {
     public static void main(String[] args) {
-        ordinary();
-        many();
+        ofDepthOrLess();
+        none();
+        moreThanMany();
         noneTimesMany();
+        manyTimesMany();
+        justBelowMany();
         exactlyMany();
         manyBySum();
-        wrongArguments();
+        noSuchType();
+        noSuchDepth();
         Expect.end();
     }
 
-    private static void ordinary() {
+    /** "How many values of depth or less a type has" */
+    private static void ofDepthOrLess() {
         long[] trees = {1, 2, 5, 26, 677};
         long[] lists = {1, 3, 7, 15, 31};
         long[] pairs = {0, 1, 4, 9, 16};
@@ -19,16 +24,22 @@ public final class CountTest {
             Expect.answers("lists", Samples.lists().count(1, depth), lists[depth]);
             Expect.answers("truths", Samples.lists().count(0, depth), 2);
             Expect.answers("pairs", Samples.pairs().count(2, depth), pairs[depth]);
-            Expect.answers("none", Samples.empties().count(0, depth), 0);
-            Expect.answers("pairs of none", Samples.empties().count(1, depth), 0);
-            Expect.answers("no constructors", Samples.empties().count(5, depth), 0);
         }
         LazyTester x = Samples.trees();
         x.constructor(0, 0, -1, -1, -1);
         Expect.answers("a constructor more", x.count(0, 2), 38);
     }
 
-    private static void many() {
+    private static void none() {
+        for (int depth = 0; depth <= 4; depth++) {
+            Expect.answers("none without end", Samples.empties().count(0, depth), 0);
+            Expect.answers("pairs of none", Samples.empties().count(1, depth), 0);
+            Expect.answers("no constructors", Samples.empties().count(5, depth), 0);
+        }
+    }
+
+    /** "MANY if there are more." */
+    private static void moreThanMany() {
         LazyTester x = Samples.bushes();
         Expect.answers("bushes 1", x.count(0, 1), 4);
         Expect.answers("bushes 2", x.count(0, 2), 193);
@@ -48,6 +59,38 @@ public final class CountTest {
         Expect.answers("many times one", x.count(1, 4), 465142908077584L);
     }
 
+    /** Type 3 has 4 * (4 * (4 * 4 ^ 3) ^ 3) ^ 3 values of depth 3: more than MANY, of which type 4 has triples. */
+    private static void manyTimesMany() {
+        LazyTester x = new LazyTester();
+        for (int c = 0; c < 4; c++) {
+            x.constructor(0, 0, -1, -1, -1);
+            x.constructor(1, 3, 0, 0, 0);
+            x.constructor(2, 3, 1, 1, 1);
+            x.constructor(3, 3, 2, 2, 2);
+            x.constructor(4, 3, 3, 3, 3);
+        }
+        Expect.answers("depth 1", x.count(1, 1), 256);
+        Expect.answers("depth 2", x.count(2, 2), 67108864);
+        Expect.answers("depth 3", x.count(3, 3), LazyTester.MANY);
+        Expect.answers("depth 4", x.count(4, 4), LazyTester.MANY);
+        Expect.answers("a number below MANY", x.show(4, 4, LazyTester.MANY - 1), 121);
+        Expect.answers("its constructor", x.shown(0), 0);
+        x.constructor(5, 3, 3, 5, 3);
+        Expect.answers("many times none times many", x.count(5, 4), 0);
+    }
+
+    /** "MANY if there are more": three times 2 to the 48th are not, four times are. */
+    private static void justBelowMany() {
+        LazyTester x = Samples.belowMany();
+        Expect.answers("2 to the 48th", x.count(3, 3), 281474976710656L);
+        Expect.answers("three times that", x.count(5, 4), 844424930131968L);
+        Expect.answers("the last of them", x.show(5, 4, 844424930131967L), 29);
+        Expect.badState("there is no other", () -> x.show(5, 4, 844424930131968L));
+        x.constructor(4, 0, -1, -1, -1);
+        Expect.answers("four times that", x.count(5, 4), LazyTester.MANY);
+    }
+
+    /** "MANY if there are more": it is MANY as well if there are just as many. */
     private static void exactlyMany() {
         LazyTester x = tenMillions();
         x.constructor(5, 3, 4, 4, 2);
@@ -71,19 +114,9 @@ public final class CountTest {
         Expect.answers("its constructor", x.shown(0), 2);
     }
 
-    /** Type 2 has 3 + 3 + 4 = 10 values, type 3 a thousand, type 4 ten millions. */
+    /** Type 2 has 10 values, type 3 a thousand, type 4 ten millions. */
     private static LazyTester tenMillions() {
-        LazyTester x = new LazyTester();
-        for (int c = 0; c < 3; c++) {
-            x.constructor(0, 0, -1, -1, -1);
-        }
-        for (int c = 0; c < 4; c++) {
-            x.constructor(1, 0, -1, -1, -1);
-        }
-        x.constructor(2, 1, 0, -1, -1);
-        x.constructor(2, 1, 0, -1, -1);
-        x.constructor(2, 1, 1, -1, -1);
-        x.constructor(3, 3, 2, 2, 2);
+        LazyTester x = Samples.thousand();
         x.constructor(4, 3, 3, 3, 2);
         Expect.answers("ten", x.count(2, 1), 10);
         Expect.answers("a thousand", x.count(3, 2), 1000);
@@ -91,12 +124,23 @@ public final class CountTest {
         return x;
     }
 
-    private static void wrongArguments() {
+    /** "IndexOutOfBoundsException if there is no such type" */
+    private static void noSuchType() {
         LazyTester x = Samples.trees();
-        Expect.noSuchIndex("type -1", () -> x.count(-1, 0));
-        Expect.noSuchIndex("type 6", () -> x.count(6, 0));
-        Expect.badArgument("depth -1", () -> x.count(0, -1));
-        Expect.badArgument("depth 5", () -> x.count(0, 5));
-        Expect.noSuchIndex("type before depth", () -> x.count(6, 5));
+        for (int type : new int[] {-1, 6, Integer.MIN_VALUE, Integer.MAX_VALUE}) {
+            Expect.noSuchIndex("type " + type, () -> x.count(type, 0));
+        }
+        Expect.answers("type 0", x.count(0, 0), 1);
+        Expect.answers("type 5", x.count(5, 0), 0);
+    }
+
+    /** "IllegalArgumentException if depth is not 0 .. 4" */
+    private static void noSuchDepth() {
+        LazyTester x = Samples.trees();
+        for (int depth : new int[] {-1, 5, Integer.MIN_VALUE, Integer.MAX_VALUE}) {
+            Expect.badArgument("depth " + depth, () -> x.count(0, depth));
+        }
+        Expect.answers("depth 0", x.count(0, 0), 1);
+        Expect.answers("depth 4", x.count(0, 4), 677);
     }
 }

@@ -1,9 +1,24 @@
-/** Promise 11. */
+/** Promise 11: "The pile becomes empty." */
 public final class DiscardTest {
     public static void main(String[] args) {
-        LazyTester x = Samples.trees();
+        ofAnEmptyPile();
+        ofAPile();
+        ofAFullPile();
+        Expect.end();
+    }
+
+    private static void ofAnEmptyPile() {
+        LazyTester x = new LazyTester();
         x.discard();
-        Expect.answers("after discarding nothing", x.test(0, 0), 1);
+        x.discard();
+        Expect.badState("it is empty", () -> x.combine(2));
+        Expect.answers("the first", x.test(0, 0), 1);
+    }
+
+    private static void ofAPile() {
+        LazyTester x = Samples.trees();
+        x.test(0, 0);
+        x.test(0, 0);
         x.check(0, 1);
         x.discard();
         Expect.badState("nothing to check", () -> x.check(0, 1));
@@ -12,6 +27,11 @@ public final class DiscardTest {
         Expect.counts("what was counted stays", x, 2, 1);
         Expect.shows("what was shown stays", x, 1, 0, 0);
         Expect.answers("the types stay", x.count(0, 4), 677);
+        Expect.answers("the first", x.same(0, 0), 1);
+    }
+
+    private static void ofAFullPile() {
+        LazyTester x = new LazyTester();
         for (int round = 0; round < 3; round++) {
             for (int n = 1; n <= 20; n++) {
                 Expect.answers("twenty again", x.test(0, 0), n);
@@ -19,6 +39,5 @@ public final class DiscardTest {
             Expect.badState("no more", () -> x.test(0, 0));
             x.discard();
         }
-        Expect.end();
     }
 }

@@ -9,10 +9,6 @@ final class Expect {
         long answer();
     }
 
-    interface Act {
-        void run();
-    }
-
     static void answers(String call, long got, long due) {
         if (got != due) {
             wrong++;
@@ -20,18 +16,23 @@ final class Expect {
         }
     }
 
-    static void fails(String call, Class<? extends RuntimeException> due, Call body) {
-        String got;
-        try {
-            got = "answered " + body.answer();
-        } catch (RuntimeException e) {
-            if (e.getClass() == due) {
-                return;
-            }
-            got = "threw " + e;
+    static void texts(String where, String got, String due) {
+        if (!got.equals(due)) {
+            wrong++;
+            System.out.println(where + ": " + got + "\n due is " + due);
         }
-        wrong++;
-        System.out.println(call + " " + got + ", due is " + due.getSimpleName());
+    }
+
+    static String outcome(Call call) {
+        try {
+            return "answered " + call.answer();
+        } catch (RuntimeException e) {
+            return "threw " + e.getClass().getSimpleName();
+        }
+    }
+
+    static void fails(String call, Class<? extends RuntimeException> due, Call body) {
+        texts(call, outcome(body), "threw " + due.getSimpleName());
     }
 
     static void noSuchIndex(String call, Call body) {
@@ -44,6 +45,18 @@ final class Expect {
 
     static void badState(String call, Call body) {
         fails(call, IllegalStateException.class, body);
+    }
+
+    static void refuted(String call, LazyTester x, int type, int depth) {
+        texts(call, outcome(() -> x.refine(type, depth) ? 1 : 0), "answered 0");
+    }
+
+    static void notRefuted(String call, LazyTester x, int type, int depth) {
+        texts(call, outcome(() -> x.refine(type, depth) ? 1 : 0), "answered 1");
+    }
+
+    static void refiningFails(String call, LazyTester x, int type, int depth) {
+        badState(call, () -> x.refine(type, depth) ? 1 : 0);
     }
 
     /** What is shown must be exactly this, with nothing before and behind it. */

@@ -43,6 +43,8 @@ final class Model {
     }
 
     final List<List<int[]>> types = new ArrayList<>();
+    /** What countOfSize has found for the types that there are; null for what it has not. */
+    private Long[][] countsOfSize = new Long[6][13];
     final List<Property> pile = new ArrayList<>();
     List<Integer> shown = new ArrayList<>();
     int made = 0;
@@ -84,6 +86,7 @@ final class Model {
         }
         need(types.get(type).size() < 4, new IllegalStateException());
         types.get(type).add(form);
+        countsOfSize = new Long[6][13];
         return types.get(type).size() - 1;
     }
 
@@ -141,6 +144,29 @@ final class Model {
         throw new AssertionError();
     }
 
+    /** In how many ways fields from k on can have a size together. */
+    private long waysOfSize(int[] form, int k, int together) {
+        if (k == form.length) {
+            return together == 0 ? 1 : 0;
+        }
+        long ways = 0;
+        for (int s = 1; s <= together; s++) {
+            ways += countOfSize(form[k], s) * waysOfSize(form, k + 1, together - s);
+        }
+        return ways;
+    }
+
+    private long countOfSize(int type, int size) {
+        if (countsOfSize[type][size] == null) {
+            long sum = 0;
+            for (int[] form : types.get(type)) {
+                sum += waysOfSize(form, 0, size - 1);
+            }
+            countsOfSize[type][size] = sum;
+        }
+        return countsOfSize[type][size];
+    }
+
     /** All values of a size, in order, as what is shown of them. */
     List<List<Integer>> ofSize(int type, int size) {
         List<List<Integer>> all = new ArrayList<>();
@@ -168,10 +194,15 @@ final class Model {
     }
 
     private List<List<Integer>> joined(List<Integer> begin, int[] form, int... sizes) {
+        for (int k = 0; k < form.length; k++) {
+            if (sizes[k] < 1 || countOfSize(form[k], sizes[k]) == 0) {
+                return List.of();
+            }
+        }
         List<List<Integer>> all = List.of(begin);
         for (int k = 0; k < form.length; k++) {
             List<List<Integer>> longer = new ArrayList<>();
-            List<List<Integer>> fields = sizes[k] < 1 ? List.of() : ofSize(form[k], sizes[k]);
+            List<List<Integer>> fields = ofSize(form[k], sizes[k]);
             for (List<Integer> front : all) {
                 for (List<Integer> field : fields) {
                     List<Integer> whole = new ArrayList<>(front);
@@ -191,14 +222,13 @@ final class Model {
 
     long sized(int type, int size) {
         needTypeAndSize(type, size);
-        return ofSize(type, size).size();
+        return countOfSize(type, size);
     }
 
     long showSized(int type, int size, long number) {
         needTypeAndSize(type, size);
-        List<List<Integer>> all = ofSize(type, size);
-        need(number >= 0 && number < all.size(), new IllegalStateException());
-        shown = all.get((int) number);
+        need(number >= 0 && number < countOfSize(type, size), new IllegalStateException());
+        shown = ofSize(type, size).get((int) number);
         return size;
     }
 

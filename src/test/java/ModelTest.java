@@ -112,10 +112,12 @@ public final class ModelTest {
     }
 
     private void sized(int run, int type) {
-        int size = pick(20) == 0 ? (pick(2) == 0 ? 0 : 13) : 1 + pick(8);
+        int size = pick(20) == 0 ? (pick(2) == 0 ? 0 : 13) : 1 + pick(12);
         compare(run, "sized " + type + " " + size, () -> tester.sized(type, size), () -> model.sized(type, size));
         boolean known = type >= 0 && type < 6 && size >= 1 && size <= 12;
-        long n = pick(known ? (int) model.sized(type, size) + 2 : 3) - 1;
+        long values = known ? model.sized(type, size) : 0;
+        // The model lists all values to find one, so that it takes part only where these are not too many.
+        long n = values > 3000 ? (pick(2) == 0 ? -1 : values + pick(2)) : pick((int) values + 2) - 1;
         compare(run, "showSized " + type + " " + size + " " + n,
                 () -> tester.showSized(type, size, n), () -> model.showSized(type, size, n));
     }
