@@ -10,6 +10,7 @@ public final class EvaluatingTest {
         sameComparesTheFirstValueFirst();
         sameComparesFieldByField();
         onlyWhatMustBeKnown();
+        aHoleIsSomething();
         oneAndTheSameHole();
         and();
         or();
@@ -111,13 +112,31 @@ public final class EvaluatingTest {
         x.same(3, 1);
         Expect.refuted("nothing at p, a hole at q", x, 2, 3);
         Expect.shows("q is not asked for", x, 0, HOLE, HOLE);
+        Expect.counts("nothing at p, a hole at q", x, 2, 0);
         with(x).same(1, 3);
         Expect.refuted("a hole at p, nothing at q", x, 2, 3);
         Expect.shows("p is not asked for", x, 0, HOLE, HOLE);
-        Expect.counts("it", x, 2, 0);
+        Expect.counts("a hole at p, nothing at q", x, 2, 0);
         with(x).same(3, 7);
         Expect.notRefuted("nothing at both, once it is known", x, 2, 3);
         Expect.counts("field 0 is asked for", x, 4, 9);
+    }
+
+    /** "SAME p, q: there is nothing at p and at q, or something at both": a hole is something, whatever it may become. */
+    private static void aHoleIsSomething() {
+        int[][] holeAndNothing = {{1, 3}, {3, 1}, {2, 15}, {15, 2}};
+        for (int[] paths : holeAndNothing) {
+            LazyTester x = Samples.pairs();
+            x.same(paths[0], paths[1]);
+            x.combine(2);
+            String property = "NOT SAME " + paths[0] + ", " + paths[1];
+            Expect.notRefuted(property, x, 2, 3);
+            Expect.counts(property + " passes with two holes", x, 2, 9);
+        }
+        LazyTester y = Samples.empties();
+        y.same(2, 3);
+        Expect.notRefuted("false, but the hole has no value", y, 1, 4);
+        Expect.counts("the hole is not asked for", y, 2, 0);
     }
 
     /** "(two holes at p and q that are one and the same are asked for too)" */
